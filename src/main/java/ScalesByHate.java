@@ -1092,10 +1092,13 @@ public final class ScalesByHate {
             whoseWorth = NOBODY;
             hungerByWorth = MOST_HUNGER + 1;
             for (int who = 0; who < now.size; who++) {
+                if (who == one) {
+                    continue;
+                }
                 begin();
                 world.setFelt(who, one, -MOST_FEELING);
                 goOn(n);
-                if (who != one && world.hungerOf(one) < hungerByWorth) {
+                if (world.hungerOf(one) < hungerByWorth) {
                     whoseWorth = who;
                     hungerByWorth = world.hungerOf(one);
                 }

@@ -14,6 +14,7 @@ public final class DeedTest {
         changesAreUndone();
         fortyChangesAreKept();
         deedsAreNoChanges();
+        theLastOfEightDo();
         due.end();
     }
 
@@ -88,6 +89,9 @@ public final class DeedTest {
         due.is("it is not there any more", x.lease(1, 2), STATE);
         due.is("1 leases it back", x.lease(10, 2), 94);
         due.is("led(4)", x.led(4), 2);
+        x.feel(13, -1);
+        due.is("the least hate is leased", x.lease(1, 3), 99);
+        due.is("led(4)", x.led(4), 3);
         x.feel(32, 4);
         due.is("love is not leased", x.lease(3, 2), STATE);
         due.is("c like a", x.lease(1, 0), BAD);
@@ -96,7 +100,7 @@ public final class DeedTest {
         due.is("c not there", x.lease(1, 4), BAD);
         due.is("c below", x.lease(1, -1), BAD);
         due.is("b not there", x.lease(4, 2), BAD);
-        due.is("led(4) still", x.led(4), 2);
+        due.is("led(4) still", x.led(4), 3);
     }
 
     private static void giftsAreGiven() {
@@ -260,6 +264,24 @@ public final class DeedTest {
         due.is("38 and one", x.count(2), 39);
         due.is("undo()", x.undo(), 38);
         due.is("back to the 38th", x.of(0, 0), 63);
+    }
+
+    private static void theLastOfEightDo() {
+        ScalesByHate x = Bazaars.of(8);
+        due.is("wrong(76, 5)", x.wrong(76, 5), 95);
+        due.is("6's feeling for 7", x.feeling(67), 95);
+        due.is("wrong(67, 4)", x.wrong(67, 4), 96);
+        due.is("7's feeling for 6", x.feeling(76), 96);
+        due.is("5 leases 7's for 6", x.lease(57, 6), 96);
+        due.is("it is 5's", x.feeling(56), 96);
+        due.is("7 has none", x.feeling(76), 100);
+        due.is("7 leases 5's for 6", x.lease(75, 6), 96);
+        due.is("it is 7's", x.feeling(76), 96);
+        due.is("gift(76, 3)", x.gift(76, 3), 23);
+        due.is("from 6", x.of(6, 0), 17);
+        due.is("to 7", x.of(7, 0), 23);
+        due.is("gift(67, 9)", x.gift(67, 9), 26);
+        due.is("from 7", x.of(7, 0), 14);
     }
 
     private static void deedsAreNoChanges() {

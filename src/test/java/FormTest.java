@@ -61,6 +61,11 @@ public final class FormTest {
             }
         }
         due.holds("the constants: " + constants, constants.equals(Set.of("BAD", "NOT", "FULL", "STATE", "VOID")));
+        due.is("BAD", ScalesByHate.BAD, -1);
+        due.is("NOT", ScalesByHate.NOT, -2);
+        due.is("FULL", ScalesByHate.FULL, -3);
+        due.is("STATE", ScalesByHate.STATE, -5);
+        due.is("VOID", ScalesByHate.VOID, -2000000000);
         Constructor<?>[] made = c.getDeclaredConstructors();
         due.holds("one constructor", made.length == 1 && Modifier.isPublic(made[0].getModifiers())
             && made[0].getParameterCount() == 0);

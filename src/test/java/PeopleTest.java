@@ -171,6 +171,12 @@ public final class PeopleTest {
             x.feed(i % 2 == 0 ? '1' : '-');
         }
         due.is("a law of 160 bytes", x.law(), 1);
+        StringBuilder longest = new StringBuilder("-1");
+        for (int i = 0; i < 78; i++) {
+            longest.append(i % 2 == 0 ? "+1" : "-1");
+        }
+        due.is("160 bytes that make -1 and 7", Bazaars.weighedBy(longest.append("+7").toString()), 6);
+        due.is("40 lines, the last counts", Bazaars.weighedBy("0?1;".repeat(39) + "(3)"), 3);
         due.is("law(), the tape is empty", x.law(), -100);
     }
 

@@ -15,6 +15,7 @@ public final class TodayTest {
         hateIsWorth();
         ringsAreFound();
         thoughtChangesNothing();
+        theLastOfEightEat();
         due.end();
     }
 
@@ -316,6 +317,34 @@ public final class TodayTest {
         due.is("5, 6, 7", x.ring(), 3);
         x.feel(10, -1);
         due.is("0 and 1", x.ring(), 2);
+    }
+
+    private static void theLastOfEightEat() {
+        ScalesByHate x = Bazaars.of(8);
+        due.is("all eight lack a friend", x.lacks(0, 0), 255);
+        x.feel(76, -4);
+        x.feel(56, 2);
+        due.is("feeling(76)", x.feeling(76), 96);
+        due.is("feeling(56)", x.feeling(56), 102);
+        due.is("only 6 has a friend", x.lacks(0, 0), 191);
+        due.is("6 is paired", x.paired(6), 7);
+        due.is("nobody else", x.paired(7), 8);
+        due.is("feltLater(1, 76)", x.feltLater(1, 76), 97);
+        due.is("lasts(6)", x.lasts(6), 4);
+        due.is("renewed(76, -6)", x.renewed(76, -6), 6);
+        due.is("renewed(75, -6)", x.renewed(75, -6), 0);
+        due.is("worth(6, 1, 0): 4 + 5 by 7 as it is, 4 + 0 by others", x.worth(6, 1, 0), 0);
+        due.is("byTurns(67, 1, 0): 8 + 5 - 4", x.byTurns(67, 1, 0), 11);
+        due.is("byTurns(67, 2, 0): forgiving would feed him more", x.byTurns(67, 2, 0), 11);
+        Bazaars.bytes(x, 5, 7, 7, 8);
+        due.is("fits(5, 76, 0): -2", x.fits(5, 76, 0), 1);
+        due.is("fits(5, 76, 1): -2", x.fits(5, 76, 1), 98);
+        due.is("fits(5, 76, 2): by no hunger", x.fits(5, 76, 2), 0);
+        x.feel(76, -2);
+        due.is("fits(5, 76, 2): by each", x.fits(5, 76, 2), 100);
+        due.is("drawn, 6 eats twice: 20 - 11 - 12", x.drawn(1, 10200, 6), 0);
+        due.is("day()", x.day(), 1);
+        due.holds("told", Bazaars.tale(x).equals("6<7|5:11;"));
     }
 
     private static void thoughtChangesNothing() {
