@@ -21,7 +21,6 @@ public final class ScalesByHate {
     private final LawReader reader;
     private final Law rule;
     private final Thought thought;
-    private final Seen seen;
     private final Pairing pairing;
     private final Round today;
     private final Book book;
@@ -33,9 +32,8 @@ public final class ScalesByHate {
         bazaar = new Bazaar();
         reader = new LawReader();
         rule = new Law();
-        thought = new Thought(bazaar, rule);
         shelves = new Shelves();
-        seen = new Seen(thought, shelves);
+        thought = new Thought(bazaar, rule, shelves);
         pairing = new Pairing(bazaar);
         today = new Round();
         book = new Book();
@@ -213,7 +211,7 @@ public final class ScalesByHate {
             return refusal;
         }
         thought.begin();
-        return seen.firstUnlike(shelf, one);
+        return thought.firstUnlike(shelf, one);
     }
 
     public int fits(int shelf, int ab, int what) {
@@ -226,14 +224,14 @@ public final class ScalesByHate {
         }
         int one = ab % 10;
         if (what == 2) {
-            seen.tryNumbers(shelf, one, Bazaar.HUNGER + one, 0, MOST_HUNGER);
-            return seen.fitting;
+            thought.tryNumbers(shelf, one, Bazaar.HUNGER + one, 0, MOST_HUNGER);
+            return thought.fitting;
         }
-        seen.tryNumbers(shelf, one, Bazaar.placeOfFeeling(ab / 10, one), -MOST_FEELING, MOST_FEELING);
+        thought.tryNumbers(shelf, one, Bazaar.placeOfFeeling(ab / 10, one), -MOST_FEELING, MOST_FEELING);
         if (what == 0) {
-            return seen.fitting;
+            return thought.fitting;
         }
-        return seen.fitting == 0 ? NOT : seen.leastFitting + LIFT;
+        return thought.fitting == 0 ? NOT : thought.leastFitting + LIFT;
     }
 
     public int byTurns(int ab, int n, int what) {
@@ -516,7 +514,7 @@ public final class ScalesByHate {
         }
 
         int hungerOf(int one) {
-            return numberAt(HUNGER + one);
+            return one >= 0 && one < MOST_PEOPLE ? numbers[HUNGER + one] : 0;
         }
 
         void hungerMore(int one, int v) {
@@ -528,13 +526,12 @@ public final class ScalesByHate {
         }
 
         int felt(int one, int other) {
-            return has(one) && has(other) ? numbers[placeOfFeeling(one, other)] : 0;
+            int place = FEELINGS + one * MOST_PEOPLE + other;
+            return place >= FEELINGS && place < NUMBERS ? numbers[place] : 0;
         }
 
         void setFelt(int one, int other, int v) {
-            if (has(one) && has(other)) {
-                numbers[placeOfFeeling(one, other)] = v;
-            }
+            setNumber(placeOfFeeling(one, other), v);
         }
 
         /** Who loves the buyer most, the weigher aside. */
@@ -1041,8 +1038,9 @@ public final class ScalesByHate {
         }
     }
 
-    /** Days that go by in a world beside the bazaar, which stays as it is. */
+    /** Days that go by in a world beside the bazaar, which stays as it is, and that days seen are held against. */
     private static final class Thought {
+        private static final int NOT_SEEN = 9;
         private static final int FEELING_STEPS = 2 * MOST_FEELING + 1;
         private static final int WRATH_OF = 12;
         private static final int DRAWN_FEELING = -5;
@@ -1052,14 +1050,18 @@ public final class ScalesByHate {
         int hungerByWorth = 0;
         int hungerByTurns = 0;
         int wrongsFirst = 0;
+        int fitting = 0;
+        int leastFitting = 0;
         private final Bazaar now;
         private final Law law;
+        private final Shelves shelves;
         private final Round round = new Round();
         private final int[] hungerByFeeling = new int[FEELING_STEPS];
 
-        Thought(Bazaar now, Law law) {
+        Thought(Bazaar now, Law law, Shelves shelves) {
             this.now = now;
             this.law = law;
+            this.shelves = shelves;
         }
 
         void begin() {
@@ -1074,18 +1076,14 @@ public final class ScalesByHate {
             return fed;
         }
 
-        /** A day goes by in the world: by whom one was weighed for. */
-        int weigherNextDay(int one) {
-            round.goBy(world, law);
-            return round.weigherOf(one);
-        }
-
         int daysFed(int one) {
-            int days = 0;
-            while (days < MOST_DAYS && weigherNextDay(one) != NOBODY) {
-                days++;
+            for (int day = 0; day < MOST_DAYS; day++) {
+                round.goBy(world, law);
+                if (round.weigherOf(one) == NOBODY) {
+                    return day;
+                }
             }
-            return days;
+            return MOST_DAYS;
         }
 
         void seekWorth(int one, int n) {
@@ -1101,6 +1099,33 @@ public final class ScalesByHate {
                 if (world.hungerOf(one) < hungerByWorth) {
                     whoseWorth = who;
                     hungerByWorth = world.hungerOf(one);
+                }
+            }
+        }
+
+        /** Of the days from where the thought stands, the first that is not as it was seen. */
+        int firstUnlike(int shelf, int one) {
+            int days = Math.min(shelves.sizeOf(shelf), MOST_DAYS);
+            for (int day = 0; day < days; day++) {
+                long by = shelves.at(shelf, day);
+                round.goBy(world, law);
+                if (by != NOT_SEEN && by != round.weigherOf(one)) {
+                    return day;
+                }
+            }
+            return NOT;
+        }
+
+        /** What one's days would be by each number that may stand at a place of the bazaar. */
+        void tryNumbers(int shelf, int one, int place, int from, int to) {
+            fitting = 0;
+            leastFitting = to;
+            for (int v = to; v >= from; v--) {
+                begin();
+                world.setNumber(place, v);
+                if (firstUnlike(shelf, one) == NOT) {
+                    fitting++;
+                    leastFitting = v;
                 }
             }
         }
@@ -1169,47 +1194,6 @@ public final class ScalesByHate {
                 int who = (z >>> 8) % people;
                 int whom = (who + 1 + (z >>> 4) % (people - 1)) % people;
                 world.setFelt(who, whom, DRAWN_FEELING);
-            }
-        }
-    }
-
-    /** Days that were seen, on a shelf, read back. */
-    private static final class Seen {
-        private static final int NOT_SEEN = 9;
-
-        int fitting = 0;
-        int leastFitting = 0;
-        private final Thought thought;
-        private final Shelves shelves;
-
-        Seen(Thought thought, Shelves shelves) {
-            this.thought = thought;
-            this.shelves = shelves;
-        }
-
-        /** From where the thought stands. */
-        int firstUnlike(int shelf, int one) {
-            int days = Math.min(shelves.sizeOf(shelf), MOST_DAYS);
-            for (int day = 0; day < days; day++) {
-                long by = shelves.at(shelf, day);
-                if (thought.weigherNextDay(one) != by && by != NOT_SEEN) {
-                    return day;
-                }
-            }
-            return NOT;
-        }
-
-        /** What one's days would be by each number that may stand at a place of the bazaar. */
-        void tryNumbers(int shelf, int one, int place, int from, int to) {
-            fitting = 0;
-            leastFitting = to;
-            for (int v = to; v >= from; v--) {
-                thought.begin();
-                thought.world.setNumber(place, v);
-                if (firstUnlike(shelf, one) == NOT) {
-                    fitting++;
-                    leastFitting = v;
-                }
             }
         }
     }
