@@ -32,7 +32,7 @@ final class Bazaars {
         if (law(x, text) != 1) {
             return -1000;
         }
-        return 99 - x.later(1, 0);
+        return x.later(1, -1) == 1 ? 99 - x.later(1, 0) : -2000;
     }
 
     static void bytes(ScalesByHate x, int shelf, int... row) {

@@ -140,6 +140,13 @@ public final class DeedTest {
         x.feel(21, 0);
         x.day();
         due.is("nobody fed", x.tale(-1), 0);
+        String[] weighed = {"0", "9", "10", "49", "50"};
+        for (String out : weighed) {
+            ScalesByHate one = Bazaars.ofOneBuyer();
+            Bazaars.law(one, out);
+            one.day();
+            due.holds("told of " + out, Bazaars.tale(one).equals("0<1|2:" + out + ";"));
+        }
         ScalesByHate full = Bazaars.of(8);
         for (int b = 0; b < 8; b++) {
             full.feel(10 * ((b + 1) % 8) + b, -9);

@@ -104,7 +104,21 @@ public final class OracleTest {
         }
     }
 
+    /** Laws that leap with hate and love, so that plays by turns differ. */
+    private String leapingLaw() {
+        String[] words = {"hate", "love", "hate", "done", "day"};
+        StringBuilder text = new StringBuilder();
+        for (int i = 0; i < 4; i++) {
+            text.append(words[draws.nextInt(5)]).append("<=>".charAt(draws.nextInt(3))).append(draws.nextInt(9));
+            text.append('?').append(draws.nextInt(25)).append(';');
+        }
+        return text.append(words[draws.nextInt(5)]).append("*").append(draws.nextInt(6)).toString();
+    }
+
     private String lawText() {
+        if (draws.nextInt(3) == 0) {
+            return leapingLaw();
+        }
         StringBuilder text = new StringBuilder();
         int lines = 1 + draws.nextInt(3);
         for (int i = 0; i < lines; i++) {

@@ -133,6 +133,25 @@ public final class SeenTest {
         x.feel(20, -1);
         due.is("1 is the friend: 9 at most", x.byTurns(1, 2, 0), 8);
         due.is("2 wrongs: the friend is 1", x.byTurns(2, 1, 0), 8);
+        ScalesByHate bump = Bazaars.of(3);
+        bump.feel(20, 1);
+        bump.feel(10, -4);
+        Bazaars.law(bump, "hate=4?1;20");
+        due.is("from -4 to -6", bump.byTurns(1, 1, 0), 0);
+        due.is("he does", bump.byTurns(1, 1, 1), 1);
+        due.is("three: the last leads out as well", bump.byTurns(1, 3, 0), 0);
+        due.is("so he need not", bump.byTurns(1, 3, 1), 0);
+        due.is("two: the other leads back", bump.byTurns(1, 2, 0), 19);
+        due.is("of like ones 0", bump.byTurns(1, 2, 1), 0);
+        ScalesByHate less = Bazaars.of(3);
+        less.feel(20, -1);
+        less.feel(10, 9);
+        Bazaars.law(less, "20-love*2");
+        due.is("from 9 to 7", less.byTurns(1, 1, 0), 14);
+        due.is("three: 7 at the last", less.byTurns(1, 3, 0), 14);
+        due.is("two: back to 9", less.byTurns(1, 2, 0), 18);
+        less.feel(10, 8);
+        due.is("two: he wrongs, the other forgives", less.byTurns(1, 2, 0), 16);
         int[] bad = {0, 3, 30, -1, 22};
         for (int ab : bad) {
             due.is("byTurns(" + ab + ", 1, 0)", x.byTurns(ab, 1, 0), BAD);
@@ -142,6 +161,34 @@ public final class SeenTest {
         due.is("what -1", x.byTurns(1, 1, -1), BAD);
         due.is("what 2", x.byTurns(1, 1, 2), BAD);
         due.is("feelings stay", x.feeling(10), 108);
+    }
+
+    private static ScalesByHate five() {
+        ScalesByHate x = Bazaars.of(5);
+        for (int a = 0; a < 5; a++) {
+            x.feel(10 * a + (a + 2) % 5, 3 + a);
+            x.feel(10 * a + (a + 3) % 5, a);
+        }
+        return x;
+    }
+
+    /** The same days, each bazaar made anew and its days gone by in deed. */
+    private static int inDeed(int seed, int nmw, int one) {
+        int z = seed;
+        int all = 0;
+        for (int i = 0; i < nmw / 10000; i++) {
+            ScalesByHate x = five();
+            for (int day = 0; day < nmw % 10000 / 100; day++) {
+                z = z * 1103515245 + 12345;
+                if ((z >>> 16) % 12 < nmw % 100) {
+                    int w = (z >>> 8) % 5;
+                    x.feel(10 * w + (w + 1 + (z >>> 4) % 4) % 5, -5);
+                }
+                x.day();
+            }
+            all += one == -1 ? x.led(1) : x.of(one, 0);
+        }
+        return all;
     }
 
     private static void bazaarsAreDrawn() {
@@ -159,6 +206,11 @@ public final class SeenTest {
         x.undo();
         due.is("a day of sure wrath, hunger", x.drawn(5, 10112, 0), hunger);
         due.is("a day of sure wrath, fed", x.drawn(5, 10112, -1), fed);
+        for (int seed = -3; seed <= 40; seed++) {
+            int sorts = 10000 * (1 + (seed & 3)) + 100 * (1 + (seed & 7)) + (seed + 3) % 13;
+            due.is("drawn(" + seed + ", " + sorts + ", 4)", five().drawn(seed * 7919, sorts, 4), inDeed(seed * 7919, sorts, 4));
+            due.is("drawn(" + seed + ", " + sorts + ", -1)", five().drawn(seed * 7919, sorts, -1), inDeed(seed * 7919, sorts, -1));
+        }
         due.is("one alone", Bazaars.of(1).drawn(5, 10212, 0), 32);
         due.is("nobody", new ScalesByHate().drawn(5, 202012, -1), 0);
         due.is("nobody's hunger", new ScalesByHate().drawn(5, 202012, 0), BAD);
