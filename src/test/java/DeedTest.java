@@ -13,6 +13,7 @@ public final class DeedTest {
         theImageIsLaidBack();
         changesAreUndone();
         fortyChangesAreKept();
+        fortyPlacesAreKept();
         deedsAreNoChanges();
         theLastOfEightDo();
         due.end();
@@ -289,6 +290,25 @@ public final class DeedTest {
         due.is("to 7", x.of(7, 0), 23);
         due.is("gift(67, 9)", x.gift(67, 9), 26);
         due.is("from 7", x.of(7, 0), 14);
+    }
+
+    private static void fortyPlacesAreKept() {
+        ScalesByHate x = Bazaars.of(8);
+        int[] places = new int[45];
+        for (int i = 0; i < 45; i++) {
+            places[i] = 10 * (i / 7) + (i / 7 + 1 + i % 7) % 8;
+            due.is("feel(" + places[i] + ")", x.feel(places[i], i % 9 + 1), 100);
+        }
+        for (int i = 44; i >= 5; i--) {
+            x.undo();
+            due.is("undone, " + i, x.feeling(places[i]), 100);
+        }
+        due.is("none is kept ahead of those", x.undo(), STATE);
+        due.is("the fifth stays", x.feeling(places[4]), 105);
+        for (int i = 5; i < 45; i++) {
+            x.redo();
+            due.is("done again, " + i, x.feeling(places[i]), 101 + i % 9);
+        }
     }
 
     private static void deedsAreNoChanges() {

@@ -150,6 +150,9 @@ public final class NeedleTest {
         }
         due.is("a row anew", x.row(3, 3, 60), 1);
         due.is("is 0", x.element(3, 59), 0);
+        x.put(4, 0, 1);
+        x.row(3, 3, 60);
+        due.is("the next shelf's first stays", x.element(4, 0), 1);
         due.is("a refused one", x.row(2, 2, -5), -14);
         due.is("leaves what is there", x.element(2, 59), 1);
     }

@@ -62,6 +62,8 @@ public final class TodayTest {
         friendless.feel(20, 1);
         due.is("with a friend", friendless.paired(-1), 1);
         due.is("by 1", friendless.paired(0), 1);
+        friendless.feel(10, 0);
+        due.is("who feels nothing weighs not", friendless.paired(-1), 0);
         ScalesByHate full = loving(8);
         for (int b = 0; b < 8; b++) {
             for (int a = 0; a < 8; a++) {
