@@ -20,6 +20,7 @@ public final class DeedTest {
     }
 
     private static void daysPass() {
+        due.promise(23, "A DAY; promise 28, what is LED");
         ScalesByHate x = Bazaars.ofOneBuyer();
         x.mend(0, 3, 2);
         due.is("first day", x.day(), 1);
@@ -47,6 +48,7 @@ public final class DeedTest {
     }
 
     private static void theDayEndsAt99() {
+        due.promise(23, "DAY and HUNGER are 99 at most");
         ScalesByHate x = Bazaars.of(2);
         x.feel(1, 9);
         x.mend(0, 5, 98);
@@ -65,6 +67,7 @@ public final class DeedTest {
     }
 
     private static void wrongsAreDone() {
+        due.promise(24, "A WRONG");
         ScalesByHate x = Bazaars.of(3);
         due.is("wrong(1, 4): 1's feeling for 0", x.wrong(1, 4), 96);
         due.is("feeling(10)", x.feeling(10), 96);
@@ -81,6 +84,7 @@ public final class DeedTest {
     }
 
     private static void feelingsAreLeased() {
+        due.promise(25, "A LEASE");
         ScalesByHate x = Bazaars.of(4);
         x.feel(12, -6);
         x.feel(2, 5);
@@ -105,6 +109,7 @@ public final class DeedTest {
     }
 
     private static void giftsAreGiven() {
+        due.promise(26, "A GIFT");
         ScalesByHate x = Bazaars.of(3);
         due.is("gift(1, 15)", x.gift(1, 15), 35);
         due.is("the other's", x.of(1, 0), 5);
@@ -121,6 +126,7 @@ public final class DeedTest {
     }
 
     private static void theTaleIsTold() {
+        due.promise(27, "THE TALE");
         ScalesByHate x = Bazaars.ofOneBuyer();
         due.is("tale(-2)", x.tale(-2), BAD);
         due.is("tale(-1), no day", x.tale(-1), 0);
@@ -161,6 +167,7 @@ public final class DeedTest {
     }
 
     private static void theImageIsLaidBack() {
+        due.promise(30, "AN IMAGE is laid back; promise 29, it is kept");
         ScalesByHate x = Bazaars.ofOneBuyer();
         due.is("none", x.back(), STATE);
         x.day();
@@ -218,6 +225,7 @@ public final class DeedTest {
     }
 
     private static void changesAreUndone() {
+        due.promise(31, "CHANGES UNDONE; promise 32, DONE AGAIN");
         ScalesByHate x = Bazaars.of(2);
         x.mend(0, 0, 20);
         x.feel(1, 0);
@@ -251,6 +259,7 @@ public final class DeedTest {
     }
 
     private static void fortyChangesAreKept() {
+        due.promise(31, "40 at most are kept; promise 32, of those");
         ScalesByHate x = Bazaars.of(1);
         for (int i = 1; i <= 45; i++) {
             x.mend(0, 0, 20 + i);
@@ -275,6 +284,7 @@ public final class DeedTest {
     }
 
     private static void theLastOfEightDo() {
+        due.promise(24, "people 5 to 7 as all others, in promises 24 to 26");
         ScalesByHate x = Bazaars.of(8);
         due.is("wrong(76, 5)", x.wrong(76, 5), 95);
         due.is("6's feeling for 7", x.feeling(67), 95);
@@ -293,6 +303,7 @@ public final class DeedTest {
     }
 
     private static void fortyPlacesAreKept() {
+        due.promise(31, "each of 40 has its own place; promise 32, too");
         ScalesByHate x = Bazaars.of(8);
         int[] places = new int[45];
         for (int i = 0; i < 45; i++) {
@@ -312,6 +323,7 @@ public final class DeedTest {
     }
 
     private static void deedsAreNoChanges() {
+        due.promise(31, "deeds are none; promise 32, too");
         ScalesByHate x = Bazaars.ofOneBuyer();
         x.mend(0, 0, 50);
         x.undo();

@@ -16,16 +16,6 @@ import java.util.regex.Pattern;
 /** What of ../shared/LANGUAGE.md can be looked up: the face, the words of the source, its sizes. */
 public final class FormTest {
     private static final String SOURCE = "src/main/java/ScalesByHate.java";
-    private static final String[] FACE = {
-        "person(int,int):int", "people(int,int,int):int", "mend(int,int,int):int", "of(int,int):int",
-        "feel(int,int):int", "feeling(int):int", "feed(int):int", "law():int", "paired(int):int", "harm(int):int",
-        "lacks(int,int):int", "later(int,int):int", "feltLater(int,int):int", "lasts(int):int", "renewed(int,int):int",
-        "worth(int,int,int):int", "ring():int", "judge(int,int):int", "fits(int,int,int):int",
-        "byTurns(int,int,int):int", "drawn(int,int,int):int", "day():int", "wrong(int,int):int", "lease(int,int):int",
-        "gift(int,int):int", "tale(int):int", "led(int):int", "image():int", "back():int", "undo():int", "redo():int",
-        "body(int):int", "act(int,int,int):int", "trace(int):int", "keep(int,int):int", "row(int,int,int):int",
-        "put(int,int,long):int", "element(int,int):long", "shift(int,int,int,int,int):int", "taken(int,int):int",
-        "count(int):int"};
     private static final Due due = new Due();
 
     public static void main(String[] args) throws IOException {
@@ -38,6 +28,7 @@ public final class FormTest {
     }
 
     private static void theFaceIsTheDocuments() {
+        due.rule(1, "the face is the document's");
         Class<?> c = ScalesByHate.class;
         due.holds("public and final", Modifier.isPublic(c.getModifiers()) && Modifier.isFinal(c.getModifiers()));
         Set<String> shown = new TreeSet<>();
@@ -52,7 +43,7 @@ public final class FormTest {
                 shown.add(text.append("):").append(m.getReturnType().getName()).toString());
             }
         }
-        due.holds("the methods shown: " + shown, shown.equals(new TreeSet<>(List.of(FACE))));
+        due.holds("the methods shown: " + shown, shown.equals(new TreeSet<>(Face.CALLS)));
         Set<String> constants = new TreeSet<>();
         for (Field f : c.getDeclaredFields()) {
             if (!Modifier.isPrivate(f.getModifiers())) {
@@ -72,9 +63,10 @@ public final class FormTest {
     }
 
     private static void classesAreOfTheForm() {
+        due.rule(2, "classes inside, their members and sizes");
         Set<String> face = new HashSet<>();
-        for (String call : FACE) {
-            face.add(call.substring(0, call.indexOf('(')));
+        for (String call : Face.CALLS) {
+            face.add(Face.nameOf(call));
         }
         List<Class<?>> all = new ArrayList<>(List.of(ScalesByHate.class.getDeclaredClasses()));
         due.holds("some twelve classes: " + (all.size() + 1), all.size() + 1 <= 12);
@@ -105,6 +97,7 @@ public final class FormTest {
     }
 
     private static void wordsAreOfTheForm(String source) {
+        due.rule(4, "no word that the rules leave out");
         String[] words = {"import", "package", "try", "catch", "finally", "throw", "throws", "synchronized", "assert",
             "volatile", "transient", "native", "instanceof", "System\\.(?!arraycopy)", "Thread", "Random", "->", "::",
             "Exact\\b", "hashCode", "toString", "equals", "strictfp", "double", "float", "goto", "record", "var"};
@@ -120,6 +113,7 @@ public final class FormTest {
     }
 
     private static void methodsAreShort(String source) {
+        due.rule(11, "methods stay short");
         Pattern head = Pattern.compile("(?m)^( {4}| {8})(?:[A-Za-z\\[\\]]+ )+[A-Za-z]+\\([^)]*\\) \\{$");
         Matcher m = head.matcher(source);
         int methods = 0;

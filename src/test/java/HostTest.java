@@ -21,6 +21,7 @@ public final class HostTest {
             }
         }
         face.sort(Comparator.comparing(Method::getName));
+        due.rule(7, "no call throws by itself");
         for (int run = 0; run < 400 && due.wrong() == 0; run++) {
             ScalesByHate x = Bazaars.of(run % 9);
             for (int i = 0; i < run % 9 * 7; i++) {

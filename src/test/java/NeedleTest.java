@@ -27,6 +27,7 @@ public final class NeedleTest {
     }
 
     private static void needlesAreKept() {
+        due.promise(33, "A NEEDLE of a KIND is kept");
         ScalesByHate x = new ScalesByHate();
         due.is("body(-1)", x.body(-1), BAD);
         due.is("body(8)", x.body(8), BAD);
@@ -50,6 +51,7 @@ public final class NeedleTest {
     }
 
     private static void actsRun() {
+        due.promise(34, "ACTS; promise 35, THE TRACE; promise 42, how many ran");
         ScalesByHate x = withNeedles();
         actIs(x, 0, 0, 5, 5, 1);
         actIs(x, 0, 1, 5, 10, 10, 1);
@@ -85,6 +87,7 @@ public final class NeedleTest {
     }
 
     private static void actsThatAreNot() {
+        due.promise(34, "no such NEEDLE, ACT; promise 35, no TRACE then");
         ScalesByHate x = withNeedles();
         due.is("trace(0) at first", x.trace(0), BAD);
         int[][] none = {{-1, 0}, {8, 0}, {0, -1}, {0, 4}, {50, 3}, {Integer.MIN_VALUE, Integer.MAX_VALUE}};
@@ -99,6 +102,7 @@ public final class NeedleTest {
     }
 
     private static void xWraps() {
+        due.promise(34, "x wraps");
         ScalesByHate x = withNeedles();
         due.is("weighs", x.act(1, 0, Integer.MAX_VALUE), Integer.MIN_VALUE + 3);
         due.is("hates", x.act(2, 1, Integer.MAX_VALUE), -((Integer.MAX_VALUE + 2) * 2));
@@ -108,6 +112,7 @@ public final class NeedleTest {
     }
 
     private static void shelvesHold() {
+        due.promise(36, "SHELVES hold nothing, or a NEEDLE");
         ScalesByHate x = withNeedles();
         due.is("keep(-1, 0)", x.keep(-1, 0), BAD);
         due.is("keep(6, 0)", x.keep(6, 0), BAD);
@@ -128,6 +133,7 @@ public final class NeedleTest {
     }
 
     private static void rowsAreMade() {
+        due.promise(37, "SHELVES hold a ROW");
         ScalesByHate x = new ScalesByHate();
         due.is("row(-1, 0, 1)", x.row(-1, 0, 1), BAD);
         due.is("row(6, 0, 1)", x.row(6, 0, 1), BAD);
@@ -158,6 +164,7 @@ public final class NeedleTest {
     }
 
     private static void elementsKeepTheirBits() {
+        due.promise(38, "an element becomes v; promise 39, it is told");
         ScalesByHate x = new ScalesByHate();
         for (int sort = 0; sort <= 4; sort++) {
             x.row(sort, sort, 3);
@@ -179,6 +186,7 @@ public final class NeedleTest {
     }
 
     private static void placesAreRefused() {
+        due.promise(38, "places that are not there; promise 39, too");
         ScalesByHate x = withNeedles();
         x.row(0, 3, 2);
         x.keep(1, 3);
@@ -195,6 +203,7 @@ public final class NeedleTest {
     }
 
     private static void elementsAreShifted() {
+        due.promise(40, "elements come to another ROW");
         ScalesByHate x = withNeedles();
         Bazaars.bytes(x, 0, 1, 2, 3, 4, 5);
         Bazaars.bytes(x, 1, 10, 20, 30);
@@ -231,6 +240,7 @@ public final class NeedleTest {
     }
 
     private static void needlesAreTaken() {
+        due.promise(41, "taken for a NEEDLE of a KIND");
         ScalesByHate x = withNeedles();
         int[][] under = {{0}, {1, 0}, {2, 0}, {3, 2, 0}, {4, 1, 0}, {5, 3, 2, 0}, {6, 0}, {7, 4, 1, 0}};
         for (int kind = 0; kind < 8; kind++) {
@@ -253,6 +263,7 @@ public final class NeedleTest {
     }
 
     private static void countsAreTold() {
+        due.promise(42, "how many");
         ScalesByHate x = Bazaars.ofOneBuyer();
         x.feel(12, -9);
         x.feed('a');

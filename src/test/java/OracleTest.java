@@ -19,7 +19,7 @@ public final class OracleTest {
         for (int run = 0; run < RUNS && test.due.wrong() == 0; run++) {
             test.runOne(run);
         }
-        test.due.end();
+        test.due.end(2, 42);
     }
 
     private void runOne(int number) {
@@ -176,6 +176,7 @@ public final class OracleTest {
 
     private void same(String call, long got, long want) {
         calls++;
+        due.promise(Face.promiseOf(Face.nameOf(call)), "by draws");
         due.is("run " + run + ", call " + calls + ": " + call, got, want);
     }
 

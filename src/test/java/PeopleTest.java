@@ -18,6 +18,7 @@ public final class PeopleTest {
     }
 
     private static void aNewObjectIsEmpty() {
+        due.promise(1, "an empty bazaar");
         ScalesByHate x = new ScalesByHate();
         for (int what = 0; what <= 5; what++) {
             due.is("new: count(" + what + ")", x.count(what), 0);
@@ -41,6 +42,7 @@ public final class PeopleTest {
     }
 
     private static void personComes() {
+        due.promise(2, "one comes");
         ScalesByHate x = new ScalesByHate();
         due.is("person below", x.person(-1, 5), BAD);
         due.is("person hungrier", x.person(100, 5), BAD);
@@ -63,6 +65,7 @@ public final class PeopleTest {
     }
 
     private static void peopleComeFromARow() {
+        due.promise(3, "PEOPLE FROM A ROW");
         ScalesByHate x = new ScalesByHate();
         due.is("people, shelf below", x.people(-1, 0, 1), BAD);
         due.is("people, shelf above", x.people(6, 0, 1), BAD);
@@ -98,6 +101,7 @@ public final class PeopleTest {
     }
 
     private static void numbersAreMended() {
+        due.promise(4, "a number becomes v; promise 5, as of mend()");
         ScalesByHate x = new ScalesByHate();
         due.is("mend(0, 0): nobody there", x.mend(0, 0, 5), BAD);
         due.is("mend(0, 2) without people", x.mend(0, 2, 3), 1);
@@ -131,6 +135,7 @@ public final class PeopleTest {
     }
 
     private static void feelingsAreTold() {
+        due.promise(6, "a FEELING becomes v; promise 7, it is told");
         ScalesByHate x = Bazaars.of(3);
         due.is("feel(12, -9)", x.feel(12, -9), 100);
         due.is("feel(12, 9)", x.feel(12, 9), 91);
@@ -152,6 +157,7 @@ public final class PeopleTest {
     }
 
     private static void theTapeIsFed() {
+        due.promise(8, "a byte comes to THE TAPE");
         ScalesByHate x = new ScalesByHate();
         due.is("feed(-1)", x.feed(-1), BAD);
         due.is("feed(256)", x.feed(256), BAD);
@@ -181,6 +187,7 @@ public final class PeopleTest {
     }
 
     private static void theLawIsRead() {
+        due.promise(9, "texts that are laws");
         String[] texts = {"1", "9999", "hate", "love", "hunger", "want", "day", "done", "((((((1))))))", "!!!!!!1",
             "------1", "!(-(!(1)))", "1+((((((2))))))", "!1|!1&!1", "1<2|3=4&5>6", "(1<2)<3", "1?2", "1;2", "1?2;3?4;5",
             "2--3", "2*-3", "1<-2", "0?1;0?2", "!!!(!(1))+!!!!!!1", "1?((((((1))))))", "((((((1))))))?2", "1?0|1&0", "0|1?1", "1?1<2", "1<2?1>2;1=2",
@@ -191,6 +198,7 @@ public final class PeopleTest {
     }
 
     private static void faultsAreFound() {
+        due.promise(9, "FAULTS");
         Object[][] faults = {{"", 0}, {"1+", 2}, {"+1", 0}, {"12345", 4}, {"hat", 0}, {"hated", 0}, {"1+wants", 2},
             {"hatelove", 0}, {"1hate", 1}, {"hate1", 4}, {"1 + 2", 1}, {"1?2?3", 3}, {"1?", 2}, {"?1", 0}, {"1;", 2},
             {";1", 0}, {"1;;2", 2}, {"1<2<3", 3}, {"1=2>3", 3}, {"1<=2", 2}, {"(1", 2}, {"()", 1}, {"1)", 1}, {"(1?2)", 2},
@@ -204,6 +212,7 @@ public final class PeopleTest {
     }
 
     private static void theLawCounts() {
+        due.promise(9, "what a law is worth");
         Object[][] laws = {{"7", 7}, {"50", 50}, {"51", 50}, {"9999", 50}, {"0", 0}, {"0-1", 0}, {"-1", 0},
             {"hate", 3}, {"love", 4}, {"hunger/10", 9}, {"want", 5}, {"day", 0}, {"done", 0},
             {"1+2*3", 7}, {"(1+2)*3", 9}, {"20-5-3", 12}, {"20/3*2", 12}, {"20%7%4", 2}, {"-7/2+10", 7}, {"-7%2+10", 9},
@@ -237,6 +246,7 @@ public final class PeopleTest {
     }
 
     private static void aFaultLeavesTheLaw() {
+        due.promise(9, "THE TAPE becomes THE LAW");
         ScalesByHate x = Bazaars.ofOneBuyer();
         Bazaars.law(x, "13");
         due.is("a fault", Bazaars.law(x, "9+"), -102);

@@ -13,6 +13,7 @@ public final class SeenTest {
     }
 
     private static void daysAreJudged() {
+        due.promise(19, "JUDGED");
         ScalesByHate x = Bazaars.ofOneBuyer();
         due.is("judge(-1, 0)", x.judge(-1, 0), BAD);
         due.is("judge(6, 0)", x.judge(6, 0), BAD);
@@ -51,6 +52,7 @@ public final class SeenTest {
     }
 
     private static void feelingsFit() {
+        due.promise(20, "FELT");
         ScalesByHate x = Bazaars.ofOneBuyer();
         due.is("fits(-1, 10, 0)", x.fits(-1, 10, 0), BAD);
         due.is("fits(6, 10, 0)", x.fits(6, 10, 0), BAD);
@@ -85,6 +87,7 @@ public final class SeenTest {
     }
 
     private static void hungersFit() {
+        due.promise(20, "HUNGRY");
         ScalesByHate x = Bazaars.of(4);
         x.feel(20, -1);
         x.feel(21, -1);
@@ -104,6 +107,7 @@ public final class SeenTest {
     }
 
     private static void twoPlayByTurns() {
+        due.promise(21, "BY TURNS");
         ScalesByHate x = Bazaars.of(3);
         x.feel(20, 1);
         due.is("one wrongs: 8 + 5 - 2", x.byTurns(1, 1, 0), 9);
@@ -192,6 +196,7 @@ public final class SeenTest {
     }
 
     private static void bazaarsAreDrawn() {
+        due.promise(22, "DRAWN");
         ScalesByHate x = Bazaars.ofOneBuyer();
         due.is("no wrath, a day", x.drawn(7, 10100, 0), 10);
         due.is("no wrath, three bazaars of a day", x.drawn(7, 30100, 0), 30);

@@ -33,6 +33,7 @@ public final class TodayTest {
     }
 
     private static void asManyAsCanBePaired() {
+        due.promise(10, "PAIRED");
         ScalesByHate none = new ScalesByHate();
         due.is("paired(-1), none there", none.paired(-1), 0);
         due.is("paired(0), none there", none.paired(0), BAD);
@@ -80,6 +81,7 @@ public final class TodayTest {
     }
 
     private static void harmIsLeast() {
+        due.promise(11, "HARM");
         ScalesByHate x = new ScalesByHate();
         due.is("harm(-1), none there", x.harm(-1), 0);
         due.is("harm(0), none there", x.harm(0), BAD);
@@ -120,6 +122,7 @@ public final class TodayTest {
     }
 
     private static void friendsAreLacked() {
+        due.promise(12, "LACKS, LOVED, HATED");
         ScalesByHate x = new ScalesByHate();
         due.is("lacks(0, 0), none there", x.lacks(0, 0), 0);
         due.is("lacks(0, 1), none there", x.lacks(0, 1), BAD);
@@ -146,6 +149,7 @@ public final class TodayTest {
     }
 
     private static void daysGoBy() {
+        due.promise(13, "BEHIND n DAYS; promise 14, FEELING then");
         ScalesByHate x = Bazaars.ofOneBuyer();
         due.is("later(0, 0)", x.later(0, 0), 20);
         due.is("later(0, -1)", x.later(0, -1), 0);
@@ -178,6 +182,7 @@ public final class TodayTest {
     }
 
     private static void theHungriestBuysFirst() {
+        due.promise(13, "A DAY: who buys, by whom, how much; promise 14, FEELING then");
         ScalesByHate x = Bazaars.of(4);
         x.feel(20, -1);
         x.feel(21, -1);
@@ -215,6 +220,7 @@ public final class TodayTest {
     }
 
     private static void feelingsFadeLater() {
+        due.promise(14, "FADES");
         ScalesByHate x = Bazaars.of(4);
         x.feel(1, 5);
         x.feel(10, -5);
@@ -238,6 +244,7 @@ public final class TodayTest {
     }
 
     private static void feedingLasts() {
+        due.promise(15, "LASTS");
         ScalesByHate x = Bazaars.ofOneBuyer();
         due.is("hate 3 feeds 3 days", x.lasts(0), 3);
         due.is("1 is never fed", x.lasts(1), 0);
@@ -258,6 +265,7 @@ public final class TodayTest {
     }
 
     private static void feelingsAreRenewed() {
+        due.promise(16, "RENEWED");
         ScalesByHate x = Bazaars.ofOneBuyer();
         due.is("made -9", x.renewed(10, -9), 9);
         due.is("made 0", x.renewed(10, 0), 0);
@@ -274,6 +282,7 @@ public final class TodayTest {
     }
 
     private static void hateIsWorth() {
+        due.promise(17, "WORTH");
         ScalesByHate x = Bazaars.of(1);
         due.is("nobody else", x.worth(0, 5, 0), NOT);
         due.is("nobody else, hunger", x.worth(0, 5, 1), NOT);
@@ -303,6 +312,7 @@ public final class TodayTest {
     }
 
     private static void ringsAreFound() {
+        due.promise(18, "RING");
         ScalesByHate x = Bazaars.of(8);
         due.is("no ring", x.ring(), NOT);
         for (int a = 0; a < 7; a++) {
@@ -322,6 +332,7 @@ public final class TodayTest {
     }
 
     private static void theLastOfEightEat() {
+        due.promise(10, "people 6 and 7 as all others, in promises 6 to 27");
         ScalesByHate x = Bazaars.of(8);
         due.is("all eight lack a friend", x.lacks(0, 0), 255);
         x.feel(76, -4);
@@ -350,6 +361,7 @@ public final class TodayTest {
     }
 
     private static void thoughtChangesNothing() {
+        due.promise(13, "thought changes nothing, in promises 11 to 22");
         ScalesByHate x = Bazaars.ofOneBuyer();
         x.later(40, 0);
         x.feltLater(40, 10);
