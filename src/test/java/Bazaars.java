@@ -18,6 +18,32 @@ final class Bazaars {
         return x;
     }
 
+    /** All feel for all the same, but for nothing. */
+    static ScalesByHate feeling(int people, int felt) {
+        ScalesByHate x = of(people);
+        for (int a = 0; a < people; a++) {
+            for (int b = 0; b < people; b++) {
+                if (a != b) {
+                    x.feel(10 * a + b, felt);
+                }
+            }
+        }
+        return x;
+    }
+
+    /** Eight who feel for each other one as no other pair beside does. */
+    static ScalesByHate ofManyFeelings() {
+        ScalesByHate x = of(8);
+        for (int ab = 0; ab < 80; ab++) {
+            x.feel(ab, ab * 7 % 19 - 9);
+        }
+        return x;
+    }
+
+    static boolean isPairOfEight(int ab) {
+        return ab >= 0 && ab / 10 < 8 && ab % 10 < 8 && ab / 10 != ab % 10;
+    }
+
     static int law(ScalesByHate x, String text) {
         for (int i = 0; i < text.length(); i++) {
             x.feed(text.charAt(i));

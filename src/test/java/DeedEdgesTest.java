@@ -6,6 +6,7 @@ public final class DeedEdgesTest {
     public static void main(String[] args) {
         wrongsAreHeld();
         wrongsAreForTheOne();
+        wrongsAreForEachPair();
         leasesTakeOver();
         leasesAreOfHate();
         leasesAreOfThree();
@@ -55,12 +56,29 @@ public final class DeedEdgesTest {
         due.promise(24, "b's FEELING for a (ab)");
         for (int ab = -20; ab <= 120; ab++) {
             ScalesByHate x = Bazaars.of(8);
-            boolean isPair = ab >= 0 && ab / 10 < 8 && ab % 10 < 8 && ab / 10 != ab % 10;
+            boolean isPair = Bazaars.isPairOfEight(ab);
             due.is("wrong(" + ab + ", 3)", x.wrong(ab, 3), isPair ? 97 : BAD);
             due.is("count(5)", x.count(5), isPair ? 1 : 0);
             if (isPair) {
                 due.is("the other's", x.feeling(10 * (ab % 10) + ab / 10), 97);
                 due.is("the one's", x.feeling(ab), 100);
+            }
+        }
+    }
+
+    private static void wrongsAreForEachPair() {
+        due.promise(24, "b's FEELING for a alone, of each pair");
+        for (int ab = 0; ab < 80; ab++) {
+            if (Bazaars.isPairOfEight(ab)) {
+                ScalesByHate x = Bazaars.ofManyFeelings();
+                int ba = 10 * (ab % 10) + ab / 10;
+                int felt = Math.max(-9, ba * 7 % 19 - 9 - 2);
+                due.is("wrong(" + ab + ", 2)", x.wrong(ab, 2), 100 + felt);
+                for (int other = 0; other < 80; other++) {
+                    if (Bazaars.isPairOfEight(other)) {
+                        due.is("feeling(" + other + ")", x.feeling(other), 100 + (other == ba ? felt : other * 7 % 19 - 9));
+                    }
+                }
             }
         }
     }
@@ -147,7 +165,7 @@ public final class DeedEdgesTest {
         due.promise(26, "from a to b (ab): a's HUNGER then");
         for (int ab = -20; ab <= 120; ab++) {
             ScalesByHate x = Bazaars.of(8);
-            boolean isPair = ab >= 0 && ab / 10 < 8 && ab % 10 < 8 && ab / 10 != ab % 10;
+            boolean isPair = Bazaars.isPairOfEight(ab);
             due.is("gift(" + ab + ", 3)", x.gift(ab, 3), isPair ? 23 : BAD);
             for (int one = 0; one < 8; one++) {
                 due.is("hunger of " + one, x.of(one, 0), isPair && one == ab / 10 ? 23 : isPair && one == ab % 10 ? 17 : 20);

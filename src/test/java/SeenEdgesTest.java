@@ -14,6 +14,7 @@ public final class SeenEdgesTest {
         feelingsFrom9BelowTo9Fit();
         howManyHungersFit();
         fitsIsOfTheLatter();
+        fitsIsOfEachPair();
         fitsIsAskedWhat();
         fitsCounts40();
         turnsTakeTurns();
@@ -225,6 +226,18 @@ public final class SeenEdgesTest {
         due.is("whoever feels", x.fits(0, 1, 2), 50);
     }
 
+    private static void fitsIsOfEachPair() {
+        due.promise(20, "of each pair");
+        ScalesByHate x = Bazaars.feeling(8, 1);
+        for (int ab = 0; ab < 80; ab++) {
+            if (Bazaars.isPairOfEight(ab)) {
+                seen(x, ab / 10, ab / 10, 9, 8);
+                due.is("fits(0, " + ab + ", 0): -2, -3", x.fits(0, ab, 0), 2);
+                due.is("fits(0, " + ab + ", 1)", x.fits(0, ab, 1), 97);
+            }
+        }
+    }
+
     private static void fitsIsAskedWhat() {
         due.promise(20, "what 0 .. 2, of a pair");
         ScalesByHate x = seen(Bazaars.of(2));
@@ -377,9 +390,10 @@ public final class SeenEdgesTest {
         x.feel(47, -2);
         x.feel(67, 0);
         due.is("7 and 4", x.byTurns(74, 1, 0), 9);
+        ScalesByHate loving = Bazaars.feeling(8, 1);
         for (int ab = -20; ab <= 120; ab++) {
-            boolean isPair = ab >= 0 && ab / 10 < 8 && ab % 10 < 8 && ab / 10 != ab % 10;
-            due.holds("byTurns(" + ab + ", 1, 0)", (x.byTurns(ab, 1, 0) == BAD) != isPair);
+            due.is("byTurns(" + ab + ", 1, 0)", loving.byTurns(ab, 1, 0), Bazaars.isPairOfEight(ab) ? 8 : BAD);
+            due.is("byTurns(" + ab + ", 2, 0)", loving.byTurns(ab, 2, 0), Bazaars.isPairOfEight(ab) ? 26 : BAD);
         }
     }
 

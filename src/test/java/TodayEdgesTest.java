@@ -19,28 +19,17 @@ public final class TodayEdgesTest {
         howManyLoveAndHate();
         laterIsFrom0To40();
         feltLaterIsFrom0To40();
+        feltLaterIsOfEachPair();
         fedWithoutAGap();
         fortyAtMost();
         renewedBecomesNow();
+        renewedIsOfEachPair();
         worthIsTheLeastHunger();
         worthIsTheLeastNumber();
         worthWithoutOthers();
         ringsOfAllSizes();
         ringsOfHate();
         due.end(10, 18);
-    }
-
-    /** All feel for all the same, but for nothing. */
-    private static ScalesByHate feeling(int people, int felt) {
-        ScalesByHate x = Bazaars.of(people);
-        for (int a = 0; a < people; a++) {
-            for (int b = 0; b < people; b++) {
-                if (a != b) {
-                    x.feel(10 * a + b, felt);
-                }
-            }
-        }
-        return x;
     }
 
     private static String weighers(ScalesByHate x, boolean isHarm) {
@@ -157,6 +146,12 @@ public final class TodayEdgesTest {
         y.feel(61, 1);
         due.same("0 by the last rather than by nobody", weighers(y, false), "78888888");
         due.is("one", y.paired(-1), 1);
+        ScalesByHate z = Bazaars.of(8);
+        for (int b = 1; b < 8; b++) {
+            z.feel(10 * (b - 1) + b, -1);
+            z.feel(10 * (b % 7 + 1) + b, 1);
+        }
+        due.same("nobody for 0, and 0 for 1", weighers(z, false), "80123456");
     }
 
     private static void pairedIsToldOfEach() {
@@ -190,10 +185,10 @@ public final class TodayEdgesTest {
             due.is("harm(0) by " + felt, x.harm(0), 1);
         }
         due.promise(11, "least price in all");
-        due.is("eight who love by 9", feeling(8, 9).harm(-1), 80);
-        due.is("eight who love by 1", feeling(8, 1).harm(-1), 16);
-        due.is("three who love by 9", feeling(3, 9).harm(-1), 30);
-        ScalesByHate x = feeling(8, 1);
+        due.is("eight who love by 9", Bazaars.feeling(8, 9).harm(-1), 80);
+        due.is("eight who love by 1", Bazaars.feeling(8, 1).harm(-1), 16);
+        due.is("three who love by 9", Bazaars.feeling(3, 9).harm(-1), 30);
+        ScalesByHate x = Bazaars.feeling(8, 1);
         for (int b = 0; b < 8; b++) {
             x.feel(10 * ((b + 5) % 8) + b, b % 2 == 0 ? 0 : -3);
         }
@@ -203,7 +198,7 @@ public final class TodayEdgesTest {
 
     private static void harmIsLeast() {
         due.promise(11, "the least of dear ways");
-        ScalesByHate x = feeling(4, 3);
+        ScalesByHate x = Bazaars.feeling(4, 3);
         x.feel(10, 0);
         x.feel(12, 0);
         due.is("1 weighs at 1 for one of them", x.harm(-1), 1 + 4 + 4 + 4);
@@ -219,9 +214,9 @@ public final class TodayEdgesTest {
     private static void harmFindsNoWay() {
         due.promise(11, "NOT: there is no way");
         due.is("one alone", Bazaars.of(1).harm(-1), NOT);
-        due.is("two", feeling(2, 9).harm(-1), NOT);
+        due.is("two", Bazaars.feeling(2, 9).harm(-1), NOT);
         due.is("three without love", Bazaars.of(3).harm(-1), NOT);
-        ScalesByHate x = feeling(8, 0);
+        ScalesByHate x = Bazaars.feeling(8, 0);
         for (int b = 0; b < 8; b++) {
             due.is("not all have a friend", x.harm(-1), NOT);
             due.is("of each", x.harm(b), NOT);
@@ -229,7 +224,7 @@ public final class TodayEdgesTest {
         }
         due.is("all have", x.harm(-1), 8);
         due.is("nobody there: nobody is to be weighed for", new ScalesByHate().harm(-1), 0);
-        ScalesByHate y = feeling(8, -1);
+        ScalesByHate y = Bazaars.feeling(8, -1);
         for (int b = 1; b < 8; b++) {
             y.feel(b, 9);
         }
@@ -242,7 +237,7 @@ public final class TodayEdgesTest {
 
     private static void harmsFriendsAreAsTheyWere() {
         due.promise(11, "a FRIEND beside is not that weigher (by FEELINGS as they were)");
-        ScalesByHate x = feeling(3, 0);
+        ScalesByHate x = Bazaars.feeling(3, 0);
         x.feel(10, 1);
         x.feel(21, 1);
         x.feel(2, 1);
@@ -252,16 +247,16 @@ public final class TodayEdgesTest {
         due.is("2 weighs for 0 at 10, for 1 he is the only friend", x.harm(-1), 10 + 1 + 1);
         x.feel(10, 0);
         due.is("2 is the only friend of 0 as well", x.harm(-1), NOT);
-        ScalesByHate y = feeling(3, 1);
+        ScalesByHate y = Bazaars.feeling(3, 1);
         due.is("who weighs for one stands by another one", y.harm(-1), 6);
     }
 
     private static void theFirstOfTheCheapest() {
         due.promise(11, "of the cheapest ways the first by weighers");
-        due.same("eight who love", weighers(feeling(8, 1), true), "10325476");
-        due.same("five who love", weighers(feeling(5, 1), true), "10342");
-        due.same("three who love", weighers(feeling(3, 1), true), "120");
-        ScalesByHate x = feeling(4, 2);
+        due.same("eight who love", weighers(Bazaars.feeling(8, 1), true), "10325476");
+        due.same("five who love", weighers(Bazaars.feeling(5, 1), true), "10342");
+        due.same("three who love", weighers(Bazaars.feeling(3, 1), true), "120");
+        ScalesByHate x = Bazaars.feeling(4, 2);
         x.feel(10, 3);
         due.same("1 for 0 is dearer", weighers(x, true), "2031");
         x.feel(20, 3);
@@ -277,22 +272,22 @@ public final class TodayEdgesTest {
         due.is("nobody there", new ScalesByHate().lacks(0, 0), 0);
         for (int people = 1; people <= 8; people++) {
             due.is("all of " + people, Bazaars.of(people).lacks(0, 0), (1 << people) - 1);
-            due.is("none of " + people, feeling(people, 1).lacks(0, 0), people == 1 ? 1 : 0);
-            due.is("hate is no love", feeling(people, -1).lacks(0, 0), (1 << people) - 1);
+            due.is("none of " + people, Bazaars.feeling(people, 1).lacks(0, 0), people == 1 ? 1 : 0);
+            due.is("hate is no love", Bazaars.feeling(people, -1).lacks(0, 0), (1 << people) - 1);
         }
         for (int one = 0; one < 8; one++) {
-            ScalesByHate x = feeling(8, 0);
+            ScalesByHate x = Bazaars.feeling(8, 0);
             x.feel(10 * ((one + 1) % 8) + one, 1);
             due.is("all but " + one, x.lacks(0, 0), 255 - (1 << one));
-            ScalesByHate y = feeling(8, 9);
+            ScalesByHate y = Bazaars.feeling(8, 9);
             for (int a = 0; a < 8; a++) {
                 y.feel(10 * a + one, a % 2 == 0 ? 0 : -1);
             }
             due.is("only " + one, y.lacks(0, 0), 1 << one);
         }
         due.promise(12, "one 0 for LACKS, else BAD");
-        due.is("lacks(1, 0)", feeling(3, 1).lacks(1, 0), BAD);
-        due.is("lacks(-1, 0)", feeling(3, 1).lacks(-1, 0), BAD);
+        due.is("lacks(1, 0)", Bazaars.feeling(3, 1).lacks(1, 0), BAD);
+        due.is("lacks(-1, 0)", Bazaars.feeling(3, 1).lacks(-1, 0), BAD);
         due.is("lacks(0, 0), though nobody is there", new ScalesByHate().lacks(0, 0), 0);
     }
 
@@ -387,6 +382,21 @@ public final class TodayEdgesTest {
         }
     }
 
+    private static void feltLaterIsOfEachPair() {
+        due.promise(14, "of each pair");
+        ScalesByHate x = Bazaars.ofManyFeelings();
+        x.mend(0, 3, 1);
+        for (int ab = 0; ab < 80; ab++) {
+            int felt = ab * 7 % 19 - 9;
+            int faded = felt > 0 ? felt - 1 : felt < 0 ? felt + 1 : 0;
+            boolean isPair = Bazaars.isPairOfEight(ab);
+            due.is("feltLater(0, " + ab + ")", x.feltLater(0, ab), isPair ? 100 + felt : BAD);
+            if (isPair && felt >= 0) {
+                due.is("feltLater(1, " + ab + ")", x.feltLater(1, ab), 100 + faded);
+            }
+        }
+    }
+
     // ---- promises 15, 16
 
     /** 0 is weighed for by others, one behind the other, for as many days as their hates are in all. */
@@ -462,6 +472,21 @@ public final class TodayEdgesTest {
         y.feel(20, -2);
         due.is("renewed(10, 1)", y.renewed(10, 1), 2);
         due.is("renewed(10, 0)", y.renewed(10, 0), 0);
+    }
+
+    private static void renewedIsOfEachPair() {
+        due.promise(16, "of each pair");
+        ScalesByHate x = Bazaars.feeling(8, 1);
+        for (int ab = 0; ab < 100; ab++) {
+            boolean isPair = Bazaars.isPairOfEight(ab);
+            due.is("renewed(" + ab + ", -4)", x.renewed(ab, -4), isPair ? 4 : BAD);
+            due.is("renewed(" + ab + ", 0)", x.renewed(ab, 0), isPair ? 0 : BAD);
+        }
+        x.feel(76, -5);
+        x.feel(67, -2);
+        due.is("renewed(67, -9): 7 is fed", x.renewed(67, -9), 9);
+        due.is("renewed(57, 9): 7 is fed", x.renewed(57, 9), 2);
+        due.is("renewed(56, 9): 6 is fed", x.renewed(56, 9), 5);
     }
 
     // ---- promise 17
@@ -568,7 +593,7 @@ public final class TodayEdgesTest {
         due.is("of 5 alone", two.ring(), 5);
         two.feel(20, -1);
         due.is("a chord: 0, 1, 2", two.ring(), 3);
-        due.is("all hate all", feeling(8, -9).ring(), 2);
+        due.is("all hate all", Bazaars.feeling(8, -9).ring(), 2);
     }
 
     private static void ringsOfHate() {
@@ -579,6 +604,6 @@ public final class TodayEdgesTest {
             x.feel(21, felt);
             due.is("by " + felt, x.ring(), felt < 0 ? 2 : NOT);
         }
-        due.is("rings of love are none", feeling(8, 9).ring(), NOT);
+        due.is("rings of love are none", Bazaars.feeling(8, 9).ring(), NOT);
     }
 }
