@@ -24,6 +24,12 @@ final class Due {
         sentence = "rule " + number + ", " + told;
     }
 
+    /** The answers behind this are looked at for what a page of the project tells. */
+    void page(String told) {
+        promise = 0;
+        sentence = told;
+    }
+
     void is(String call, long got, long want) {
         if (look(got == want)) {
             System.out.println(sentence + ": " + call + " answered " + got + ", due is " + want);
