@@ -233,7 +233,7 @@ public final class ReadmeTest {
     private static void theTestsAreRunAsTold(List<String> page) {
         due.page(PAGE + ", How its tests are run");
         due.holds("one command runs all tests", page.stream().filter(l -> l.equals("    bash .ci/run")).count() == 1);
-        due.holds("it may be run", Files.isExecutable(Path.of(".ci/run")));
+        due.holds("it is there", Files.isRegularFile(Path.of(".ci/run")));
     }
 
     private static void remove(Path room) throws IOException {
